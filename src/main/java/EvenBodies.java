@@ -295,7 +295,13 @@ public final class EvenBodies {
 
     public int unlike(int b) {
         int refusal = refusalOfThree(b, false);
-        return refusal != FINE ? refusal : countUnlike(bodies[b].diagram);
+        if (refusal != FINE) {
+            return refusal;
+        }
+        if (bodies[b].unlikeCount == 0) {
+            bodies[b].unlikeCount = countUnlike(bodies[b].diagram);
+        }
+        return bodies[b].unlikeCount;
     }
 
     // ---- snubs, duals
@@ -478,6 +484,8 @@ public final class EvenBodies {
     /** A body: its mirrors, and what has been made of them, kept till they change. */
     private static final class Body {
         final Diagram diagram = new Diagram();
+        /** How many unlike bodies come of the mirrors; 0, if they are not counted. */
+        int unlikeCount;
         private Group group;
         private Parts parts;
         private Corners corners;
@@ -492,6 +500,7 @@ public final class EvenBodies {
         void forgetGroup() {
             groupStands = false;
             snubStands = false;
+            unlikeCount = 0;
             forgetParts();
         }
 
@@ -1177,11 +1186,15 @@ public final class EvenBodies {
         private final Diagram diagram;
         private final Group group;
         private final Parts parts;
-        /** By kind: the number of its first edge or plate, and how many corners its plates have (0: no plates). */
+        private int plateKindCount;
+        private final int[] plateKinds = new int[THREE];
+        /** By kind: the number of its first edge or plate, and how many corners its plates have. */
         private final int[] first = new int[SETS_OF_THREE];
         private final int[] sizes = new int[SETS_OF_THREE];
+        /** By plate: its kind. */
         private final int[] kinds = new int[MOST_PLATES];
-        private final long[] atEdge = new long[MOST_EDGES];
+        /** By edges: the plate that was first found there. */
+        private final int[] plateAt = new int[MOST_EDGES];
         private final long[] joined = new long[MOST_PLATES];
         private final int[] walked = new int[MOST_AROUND];
         private final int[] around = new int[MOST_AROUND];
@@ -1202,52 +1215,56 @@ public final class EvenBodies {
         private void numberParts() {
             plateCount = 0;
             edgeCount = 0;
-            Arrays.fill(sizes, 0);
+            plateKindCount = 0;
             for (int set = 1; set < SETS_OF_THREE; set++) {
                 int width = diagram.isKind(set) ? Integer.bitCount(set) : 0;
                 if (width == 1) {
                     first[set] = edgeCount;
                     edgeCount = Math.min(edgeCount + parts.countOf(set), MOST_EDGES);
-                } else if (width == 2) {
-                    first[set] = plateCount;
-                    sizes[set] = parts.markMeeting(0, set, 0);
-                    for (int k = parts.countOf(set); k > 0 && plateCount < MOST_PLATES; k--) {
-                        kinds[plateCount] = set;
-                        plateCount++;
-                    }
+                } else if (width == 2 && plateKindCount < THREE) {
+                    plateKinds[plateKindCount] = set;
+                    plateKindCount++;
+                    numberPlates(set);
                 }
             }
         }
 
-        /** The plates that have element g and are of kinds around a smaller one. */
-        private long platesWith(int g, int smaller) {
-            long plates = 0;
-            for (int set = 1; set < SETS_OF_THREE; set++) {
-                if (sizes[set] != 0 && (set & smaller) == smaller) {
-                    plates |= 1L << (first[set] + parts.partWith(set, g));
-                }
+        private void numberPlates(int kind) {
+            first[kind] = plateCount;
+            sizes[kind] = parts.markMeeting(0, kind, 0);
+            for (int k = parts.countOf(kind); k > 0 && plateCount < MOST_PLATES; k--) {
+                kinds[plateCount] = kind;
+                plateCount++;
             }
-            return plates;
         }
 
         private void joinPlates() {
-            Arrays.fill(atEdge, 0L);
+            Arrays.fill(plateAt, NONE);
             Arrays.fill(joined, 0L);
             for (int g = 0; g < group.size; g++) {
-                for (int set = 1; set < SETS_OF_THREE; set <<= 1) {
-                    int edge = (diagram.ringed & set) == 0 ? NONE : first[set] + parts.partWith(set, g);
-                    if (edge >= 0 && edge < edgeCount) {
-                        atEdge[edge] |= platesWith(g, set);
+                for (int k = 0; k < plateKindCount; k++) {
+                    int kind = plateKinds[k];
+                    int plate = first[kind] + parts.partWith(kind, g);
+                    for (int edgeKind = 1; edgeKind <= kind; edgeKind <<= 1) {
+                        if ((kind & diagram.ringed & edgeKind) != 0) {
+                            joinAtEdge(plate, first[edgeKind] + parts.partWith(edgeKind, g));
+                        }
                     }
                 }
             }
-            for (int plate = 0; plate < plateCount; plate++) {
-                long self = 1L << plate;
-                for (int edge = 0; edge < edgeCount; edge++) {
-                    if ((atEdge[edge] & self) != 0) {
-                        joined[plate] |= atEdge[edge] & ~self;
-                    }
-                }
+        }
+
+        /** An edge lies in two plates at most: one that is not the first to come to it is joined to that one. */
+        private void joinAtEdge(int plate, int edge) {
+            if (plate >= plateCount || edge >= edgeCount) {
+                return;
+            }
+            int other = plateAt[edge];
+            if (other == NONE) {
+                plateAt[edge] = plate;
+            } else if (other != plate) {
+                joined[other] |= 1L << plate;
+                joined[plate] |= 1L << other;
             }
         }
 
@@ -1255,8 +1272,8 @@ public final class EvenBodies {
         private void walkAround() {
             long left = 0;
             for (int g = 0; g < group.size; g++) {
-                if (parts.partWith(0, g) == 0) {
-                    left |= platesWith(g, 0);
+                for (int k = 0; k < plateKindCount && parts.partWith(0, g) == 0; k++) {
+                    left |= 1L << (first[plateKinds[k]] + parts.partWith(plateKinds[k], g));
                 }
             }
             aroundCount = 0;
