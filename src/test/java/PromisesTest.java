@@ -21,6 +21,7 @@ public final class PromisesTest {
         digest();
         spent();
         notThree();
+        changes();
         System.out.println(wrong == 0 ? "all promises are kept" : wrong + " answers are not as due");
         if (wrong != 0) {
             System.exit(1);
@@ -603,6 +604,44 @@ public final class PromisesTest {
         h = 31 * (31 * (31 * (31 * h + 3) + 3) + 2) + 6;
         h = 31 * (31 * h + 6) - 5;
         due("with a spent one", x.digest(), h);
+    }
+
+    /** What was asked before a change is not answered again after it. */
+    private static void changes() {
+        EvenBodies x = row(0, 1, 4, 3);
+        promise = 4;
+        askAll(x, "the cube", 48, 8, 3, 12, 24, 7, 3);
+        x.ring(0, 4);
+        askAll(x, "the octahedron", 48, 6, 2, 12, 24, 7, 4);
+        promise = 3;
+        x.angle(0, 0, 1, 3);
+        askAll(x, "the tetrahedron", 24, 4, 1, 6, 12, 5, 3);
+        promise = 5;
+        put(x, 1, 1, 6, 2);
+        x.ring(1, 5);
+        askAll(x, "still the tetrahedron", 24, 4, 1, 6, 12, 5, 3);
+        x.order(1, 201, 0);
+        askAll(x, "the prism of six", 24, 12, 4, 18, 12, 5, 3);
+        promise = 2;
+        x.body(0, 3);
+        askAll(x, "a line", 8, 2, 1, 0, 4, 3, 1);
+        due("one mirror again", x.body(0, 1), 1);
+        due("one mirror again", x.about(0, 0, 0), 1);
+        due("one mirror again", x.size(0), 2);
+    }
+
+    private static void askAll(EvenBodies x, String what, int... answers) {
+        due(what + ", elements", x.size(0), answers[0]);
+        due(what + ", corners", x.count(0, 0), answers[1]);
+        int most = 0;
+        for (int c = 0; c < answers[1]; c++) {
+            most = Math.max(most, x.far(0, 0, c));
+        }
+        due(what + ", how far", most, answers[2]);
+        due(what + ", joins of the dual", x.dual(0, 1), answers[3]);
+        due(what + ", corners of the snub", x.snub(0, 0), answers[4]);
+        due(what + ", unlike ones", x.unlike(0), answers[5]);
+        due(what + ", degree", x.degree(0, 0), answers[6]);
     }
 
     /** What is refused as spent, and what is bad before that. */
