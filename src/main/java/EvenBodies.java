@@ -437,17 +437,14 @@ public final class EvenBodies {
         return bodies[b].diagram.mirrors == THREE ? FINE : NO;
     }
 
-    /** Half ones are there whatever the mirrors' number: so a number that is too high is BAD before it is NO. */
+    /** Without three mirrors there is no snub, and so no number of its corners that one could be too high for. */
     private int refusalOfHalves(int b, int corner, int other) {
-        int refusal = refusal(b, corner < 0 || other < 0);
+        int refusal = refusalOfThree(b, corner < 0 || other < 0);
         if (refusal != FINE) {
             return refusal;
         }
         int halves = bodies[b].theGroup().size / 2;
-        if (corner >= halves || other >= halves) {
-            return BAD;
-        }
-        return bodies[b].diagram.mirrors == THREE ? FINE : NO;
+        return corner < halves && other < halves ? FINE : BAD;
     }
 
     // ---- helpers of the calls

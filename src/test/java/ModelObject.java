@@ -313,13 +313,13 @@ final class ModelObject {
         if (x.isSpent()) {
             return SPENT;
         }
-        int halves = x.size() / 2;
+        if (r[b] != 3) {
+            return NO;
+        }
+        int halves = x.halves().size();
         if (name.equals("snubDegree") && a[1] >= halves
                 || name.equals("snubFar") && (a[1] >= halves || a[2] >= halves)) {
             return BAD;
-        }
-        if (r[b] != 3) {
-            return NO;
         }
         String kept = key(b) + name;
         return switch (name) {

@@ -708,5 +708,27 @@ public final class PromisesTest {
         }
         promise = 35;
         due("the other one has not three", x.alike(2, 1), NO);
+        noSnub(x, 0);
+        noSnub(x, 1);
+        noSnub(new EvenBodies(), 0);
+    }
+
+    /** Without a snub no number of its corners is too high, and NO stands against all that are not below 0. */
+    private static void noSnub(EvenBodies x, int b) {
+        int[] corners = {0, 1, x.size(b) / 2 - 1, x.size(b) / 2, x.size(b), HIGH};
+        for (int corner : corners) {
+            promise = 39;
+            due("no snub, corner " + corner, x.snubDegree(b, corner), NO);
+            promise = 40;
+            due("no snub, from " + corner, x.snubFar(b, corner, 0), NO);
+            due("no snub, to " + corner, x.snubFar(b, 0, corner), NO);
+            due("no snub, below 0, from " + corner, x.snubFar(b, corner, -1), BAD);
+            due("no snub, below 0, to " + corner, x.snubFar(b, -1, corner), BAD);
+        }
+        promise = 39;
+        due("no snub, below 0", x.snubDegree(b, -1), BAD);
+        due("no snub, no body", x.snubDegree(4, 0), BAD);
+        promise = 40;
+        due("no snub, no body", x.snubFar(-1, 0, 0), BAD);
     }
 }
