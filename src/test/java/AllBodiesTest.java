@@ -4,6 +4,12 @@ import java.util.List;
 /** Every body of one, two and three mirrors, and whole groups of four, with every call on it, against the model. */
 public final class AllBodiesTest {
     private static final int[][] PAIRS = {{0, 1}, {0, 2}, {1, 2}, {0, 3}, {1, 3}, {2, 3}};
+    /**
+     * How many ways of angles there are, by what is joined: 1 with nothing joined; 6 pairs of 4 angles; 3 times two
+     * pairs of 16 angles; 4 times three mirrors in a row of 3 3 (3 ways), 3 4 (6) or 3 5 (6); rows of 3 3 3 (12) and
+     * 3 3 4 (24); 4 with one mirror in the midst.
+     */
+    private static final int WHOLE_OF_FOUR = 1 + 24 + 48 + 60 + 12 + 24 + 4;
 
     public static void main(String[] args) {
         for (int r = 1; r <= 3; r++) {
@@ -12,19 +18,31 @@ public final class AllBodiesTest {
                 askAll(r, angles(code, pairs));
             }
         }
-        askAll(4, new int[] {3, 2, 3, 2, 2, 3});
-        askAll(4, new int[] {3, 2, 3, 2, 2, 4});
-        askAll(4, new int[] {3, 3, 2, 3, 2, 2});
-        askAll(4, new int[] {2, 2, 5, 3, 2, 2});
-        askAll(4, new int[] {2, 5, 2, 2, 6, 2});
-        askAll(4, new int[] {2, 2, 3, 2, 2, 2});
-        askAll(4, new int[] {4, 2, 2, 2, 2, 4});
-        askAll(4, new int[] {2, 2, 2, 2, 2, 2});
+        askWholeOfFour();
         askAll(4, new int[] {3, 2, 4, 2, 2, 3});
         askAll(4, new int[] {3, 2, 3, 2, 2, 5});
         askAll(4, new int[] {6, 6, 6, 6, 6, 6});
         compareAll();
         Pair.end();
+    }
+
+    /** Which groups are whole is told by the class itself; that it tells this right is seen by how many there are. */
+    private static void askWholeOfFour() {
+        int whole = 0;
+        for (int code = 0; code < Math.pow(5, PAIRS.length); code++) {
+            int[] angles = angles(code, PAIRS.length);
+            EvenBodies x = new EvenBodies();
+            x.body(0, 4);
+            for (int k = 0; k < PAIRS.length; k++) {
+                x.angle(0, PAIRS[k][0], PAIRS[k][1], angles[k]);
+            }
+            if (x.size(0) > 0) {
+                whole++;
+                askAll(4, angles);
+                ModelObject.forget();
+            }
+        }
+        Pair.due("whole groups of four mirrors", whole, WHOLE_OF_FOUR);
     }
 
     private static int[] angles(int code, int pairs) {

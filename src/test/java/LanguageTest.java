@@ -82,6 +82,10 @@ public final class LanguageTest {
                 open.add(method.getName());
             }
         }
+        for (Method method : EvenBodies.class.getDeclaredMethods()) {
+            fault(Modifier.isPrivate(method.getModifiers()) && open.contains(method.getName()),
+                "rule 1: the name of a public method: " + method);
+        }
         Constructor<?>[] makers = EvenBodies.class.getDeclaredConstructors();
         fault(makers.length != 1 || !Modifier.isPublic(makers[0].getModifiers()), "rule 1: the constructor");
         List<Class<?>> all = new ArrayList<>(List.of(EvenBodies.class.getDeclaredClasses()));

@@ -48,6 +48,10 @@ final class Model {
         boolean isSpent;
         int[][] products;
 
+        static void forget() {
+            KEPT.clear();
+        }
+
         static Elements of(int r, int[][] m) {
             String key = r + Arrays.deepToString(m);
             Elements kept = KEPT.get(key);

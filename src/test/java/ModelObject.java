@@ -20,6 +20,13 @@ final class ModelObject {
         }
     }
 
+    /** What is kept is kept for speed alone: a test of many bodies forgets what it is through with. */
+    static void forget() {
+        MODELS.clear();
+        DEAR.clear();
+        Model.Elements.forget();
+    }
+
     private static int[][] twos(int r) {
         int[][] m = new int[r][r];
         for (int i = 0; i < r; i++) {

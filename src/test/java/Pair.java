@@ -50,6 +50,13 @@ final class Pair {
         return due;
     }
 
+    static void due(String what, long got, long want) {
+        if (got != want) {
+            wrong++;
+            System.out.println(what + ": " + got + ", due is " + want);
+        }
+    }
+
     ModelObject model() {
         return model;
     }
