@@ -1242,7 +1242,7 @@ public final class EvenBodies {
                 for (int k = 0; k < plateKindCount; k++) {
                     int kind = plateKinds[k];
                     int plate = first[kind] + parts.partWith(kind, g);
-                    for (int edgeKind = 1; edgeKind <= kind; edgeKind <<= 1) {
+                    for (int edgeKind = 1; edgeKind < SETS_OF_THREE; edgeKind <<= 1) {
                         if ((kind & diagram.ringed & edgeKind) != 0) {
                             joinAtEdge(plate, first[edgeKind] + parts.partWith(edgeKind, g));
                         }

@@ -26,6 +26,7 @@ public final class LanguageTest {
         members();
         words(code);
         methods(code);
+        loops(code);
         System.out.println(wrong == 0 ? "the rules are kept" : wrong + " rules are not kept");
         if (wrong != 0) {
             System.exit(1);
@@ -151,5 +152,35 @@ public final class LanguageTest {
             fault(lines > 60, "rule 11: lines of " + heads.group(1));
         }
         fault(found < 100, "the methods were not found: " + found);
+    }
+
+    /** Each loop's own lines show its end: what it compares with a bound is what it changes. */
+    private static void loops(String code) {
+        Matcher fors = Pattern.compile("\\bfor \\(int (\\w+) = [^;]+;([^;]+); (\\w+)( ?\\W)").matcher(code);
+        int found = 0;
+        while (fors.find()) {
+            found++;
+            String counter = fors.group(1);
+            boolean isCompared = Pattern.compile("\\b" + counter + " [<>]").matcher(fors.group(2)).find();
+            fault(!isCompared || !counter.equals(fors.group(3)), "rule 9: " + fors.group());
+        }
+        int all = count("\\bfor \\(", code);
+        fault(found != all || all < 50, "rule 9: " + found + " of " + all + " loops have a counter");
+        fault(count("\\bdo \\{", code) > 0, "rule 9: a loop without a head");
+        Matcher whiles = Pattern.compile("\\bwhile \\(.* (\\w+) < \\w+\\) \\{[^}]*\\b(\\w+)\\+\\+;").matcher(code);
+        int counted = 0;
+        while (whiles.find()) {
+            counted += whiles.group(1).equals(whiles.group(2)) ? 1 : 0;
+        }
+        fault(counted != count("\\bwhile \\(", code), "rule 9: a loop that counts nothing");
+    }
+
+    private static int count(String pattern, String code) {
+        Matcher places = Pattern.compile(pattern).matcher(code);
+        int count = 0;
+        while (places.find()) {
+            count++;
+        }
+        return count;
     }
 }

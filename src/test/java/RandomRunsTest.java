@@ -96,7 +96,7 @@ public final class RandomRunsTest {
     private static int word(Random random) {
         int word = 0;
         for (int k = some(random, 10); k > 0; k--) {
-            word = word * 10 + 1 + some(random, 3);
+            word = word * 10 + 1 + some(random, 4);
         }
         return some(random, 10) == 0 ? number(random) : word;
     }
